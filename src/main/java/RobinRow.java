@@ -22,8 +22,8 @@ public final class RobinRow {
     private static final long BEFORE_ALL = -1L;
 
     private final Sweep[] sweeps = new Sweep[MOST_SWEEPS];
+    private final Search search = new Search();
     private final PlainRow plainRow = new PlainRow();
-    private final Search search;
     private Table present;
     /** It has no slots as long as no move goes on. */
     private Table old;
@@ -33,7 +33,6 @@ public final class RobinRow {
     public RobinRow() {
         present = new Table(FIRST_SLOTS);
         old = new Table(0);
-        search = new Search(present);
         for (int number = 0; number < MOST_SWEEPS; number++) {
             sweeps[number] = new Sweep();
         }
@@ -59,18 +58,16 @@ public final class RobinRow {
         if (value < 0) {
             throw new IllegalArgumentException("a value is 0 or more");
         }
-        lookUp(key);
-        boolean isNew = !search.hasFound();
-        if (isNew && size() >= MOST_KEYS) {
+        if (size() >= MOST_KEYS && get(key) == NONE) {
             throw new IllegalStateException("there are 200 keys");
         }
         moveSlice();
-        if (isNew) {
-            putNew(key, value);
-            return NONE;
+        lookUp(key);
+        if (search.hasFound()) {
+            return search.table.exchangeValue(search.slot, value);
         }
-        lookUp(key); // once more: the slice may have carried it over
-        return search.table.exchangeValue(search.slot, value);
+        putNew(key, value);
+        return NONE;
     }
 
     public int get(int key) {
@@ -455,45 +452,41 @@ public final class RobinRow {
      * so that no call makes an object.
      */
     private static final class Search {
+        /** It is null, and the slot means nothing, as long as no key is found. */
         private Table table;
         private int slot;
         private int groups;
         private int comparisons;
 
-        Search(Table table) {
-            this.table = table;
-            begin();
-        }
-
         void begin() {
-            slot = NONE;
+            table = null;
             groups = 0;
             comparisons = 0;
         }
 
         boolean hasFound() {
-            return slot != NONE;
+            return table != null;
         }
 
         void lookIn(Table where, int key, int hash) {
-            table = where;
             boolean ended = false;
             for (int passed = 0; passed < where.slots && !ended; passed += GROUP_SLOTS) {
                 groups++;
-                boolean sawEmpty = lookAtGroup(hash + passed, key, hash >>> TAG_SHIFT);
+                boolean sawEmpty = lookAtGroup(where, hash + passed, key, hash >>> TAG_SHIFT);
                 ended = sawEmpty || hasFound();
             }
         }
 
         /** Tells whether the group has an empty slot; slots behind that one are compared, too. */
-        boolean lookAtGroup(int first, int key, int tag) {
+        boolean lookAtGroup(Table where, int first, int key, int tag) {
             boolean sawEmpty = false;
             for (int place = 0; place < GROUP_SLOTS && !hasFound(); place++) {
-                int looked = table.around(first + place);
-                sawEmpty = sawEmpty || table.isEmptyIn(looked);
-                if (table.controlIn(looked) == tag) {
+                int looked = where.around(first + place);
+                sawEmpty = sawEmpty || where.isEmptyIn(looked);
+                if (where.controlIn(looked) == tag) {
                     comparisons++;
-                    if (table.keyIn(looked) == key) {
+                    if (where.keyIn(looked) == key) {
+                        table = where;
                         slot = looked;
                     }
                 }
